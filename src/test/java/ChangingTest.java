@@ -8,6 +8,8 @@ final class ChangingTest {
         refusedChanges();
         greatestDemand();
         loansFirst();
+        loansOfOneRight();
+        aLoanThatWasUndone();
         loansOfTheSameEnd();
         loansThatCannotBeUsed();
         wrongInputs();
@@ -101,6 +103,34 @@ final class ChangingTest {
         CHECK.same("decreases give rights up", x.own(2, 0), 10);
         CHECK.same("too much", x.increase(2, 11), false);
         CHECK.same("by one", x.demand(2, 2, 0), 1);
+    }
+
+    private static void loansOfOneRight() {
+        EscrowCounter x = new EscrowCounter(2);
+        x.transfer(0, 0, 1, 2);
+        x.lend(0, 0, 1, 1, 8);
+        x.lend(0, 0, 1, 1, 9);
+        Steps.tell(x, 0, 1);
+        x.increase(1, 3);
+        CHECK.same("a rest of 1 is used", x.loan(0, 5), 1);
+        CHECK.same("and another one", x.loan(1, 5), 1);
+        CHECK.same("then an own right", x.own(1, 0), 1);
+    }
+
+    private static void aLoanThatWasUndone() {
+        EscrowCounter x = new EscrowCounter(2);
+        x.lend(0, 0, 1, 9, 8);
+        Steps.tell(x, 0, 1);
+        x.lend(0, 0, 1, 9, 2);
+        Steps.tell(x, 0, 1);
+        for (int i = 0; i < 3; i++) {
+            x.undo();
+        }
+        CHECK.same("only the first loan is there", x.available(1, 0), 9);
+        x.increase(1, 4);
+        CHECK.same("and is used", x.loan(0, 5), 4);
+        CHECK.same("the number is free again", x.lend(1, 0, 1, 3, 3), 1);
+        CHECK.same("for a loan that nobody knows", x.available(1, 1), 4);
     }
 
     private static void loansOfTheSameEnd() {

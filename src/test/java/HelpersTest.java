@@ -30,6 +30,8 @@ final class HelpersTest {
         CHECK.same("one more than its own", x.helpers(2, 0, 21), 1);
         CHECK.same("of the other kind", x.helpers(2, 1, 50), 1);
         CHECK.same("the greatest amount", x.helpers(0, 1, 30000), -1);
+        CHECK.same("a site is not its own helper", x.helpers(0, 0, 16), 1);
+        CHECK.same("nor beside all others", x.helpers(2, 0, 51), -1);
         CHECK.same("asking changes nothing", x.version(4, 4), 0);
     }
 

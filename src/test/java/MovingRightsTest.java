@@ -13,6 +13,7 @@ final class MovingRightsTest {
         rebalancingRoundsDown();
         rebalancingOfManyRights();
         rebalancingByStaleDemands();
+        rebalancingOfOneRight();
         nothingToRebalance();
         wrongRebalancing();
         CHECK.end();
@@ -188,6 +189,23 @@ final class MovingRightsTest {
         Steps.tell(x, 0, 1);
         CHECK.same("a borrower has own rights", x.own(1, 0), 30);
         CHECK.same("its own demand takes all", x.rebalance(1, 0), 0);
+    }
+
+    private static void rebalancingOfOneRight() {
+        EscrowCounter x = new EscrowCounter(3);
+        x.transfer(1, 0, 2, 1);
+        Steps.tell(x, 0, 2);
+        x.decrease(0, 49);
+        CHECK.same("refused at the first site", x.decrease(0, 3), false);
+        Steps.tell(x, 0, 2);
+        CHECK.same("a share of 1, to the first site", x.rebalance(2, 1), 1);
+        CHECK.same("none is left", x.own(2, 1), 0);
+        Steps.tell(x, 2, 0);
+        CHECK.same("the first site has it", x.own(0, 1), 1);
+        x.undo();
+        x.undo();
+        CHECK.same("undo of the rebalancing", x.undo(), 2);
+        CHECK.same("it is back", x.own(2, 1), 1);
     }
 
     private static void nothingToRebalance() {

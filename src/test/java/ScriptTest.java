@@ -40,6 +40,11 @@ final class ScriptTest {
         CHECK.same("four characters", x.clearText(), 4);
         CHECK.same("none then", x.clearText(), 0);
         CHECK.same("nothing is run", x.runScript(), -1);
+        Steps.type(x, "+0:7;t5");
+        x.clearText();
+        CHECK.same("what stood behind the text is no part of it", Steps.run(x, "+0"), -3);
+        CHECK.same("nor is a digit", Steps.run(x, "+0:"), -4);
+        x.clearText();
         CHECK.same("typing starts anew", x.type('t'), 1);
         CHECK.same("the new text counts", x.runScript(), -2);
         CHECK.fails("clearing is nothing to undo", IllegalStateException.class, x::undo);
