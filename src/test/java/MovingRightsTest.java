@@ -206,6 +206,7 @@ final class MovingRightsTest {
         x.undo();
         CHECK.same("undo of the rebalancing", x.undo(), 2);
         CHECK.same("it is back", x.own(2, 1), 1);
+        CHECK.same("the message before it is still delivered", x.demand(2, 0, 1), 3);
     }
 
     private static void nothingToRebalance() {
