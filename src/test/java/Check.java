@@ -1,4 +1,6 @@
 import java.util.function.LongSupplier;
+import java.util.function.Supplier;
+import java.util.function.ToLongFunction;
 
 /** Counts the answers that are not as due; used by every test of the project. */
 final class Check {
@@ -50,6 +52,39 @@ final class Check {
 
     void badState(String what, EscrowCounter x, LongSupplier call) {
         failsInVain(what, x, IllegalStateException.class, call);
+    }
+
+    /** The call throws what is due, and leaves the scene no other than one on which it was not made. */
+    void vain(String what, Supplier<EscrowCounter> scene, Class<? extends RuntimeException> due,
+            ToLongFunction<EscrowCounter> call) {
+        fails(what, due, () -> call.applyAsLong(scene.get()));
+        String after = DeepPicture.of(() -> afterTrying(scene.get(), call));
+        same(what + " leaves all as it was", after, DeepPicture.of(scene));
+    }
+
+    private static EscrowCounter afterTrying(EscrowCounter x, ToLongFunction<EscrowCounter> call) {
+        try {
+            call.applyAsLong(x);
+        } catch (RuntimeException e) {
+            return x;
+        }
+        return x;
+    }
+
+    /** The call answers what is due, and leaves the scene no other than one on which it was not made. */
+    void idle(String what, Supplier<EscrowCounter> scene, long due, ToLongFunction<EscrowCounter> call) {
+        same(what, call.applyAsLong(scene.get()), due);
+        String after = DeepPicture.of(() -> afterTrying(scene.get(), call));
+        same(what + " changes nothing", after, DeepPicture.of(scene));
+    }
+
+    int answers() {
+        return right + wrong;
+    }
+
+    void add(Check part) {
+        right += part.right;
+        wrong += part.wrong;
     }
 
     void note(boolean isRight, String complaint) {

@@ -16,20 +16,6 @@ final class HistoryTest {
         CHECK.end();
     }
 
-    private static EscrowCounter ready() {
-        EscrowCounter x = new EscrowCounter(3);
-        x.increase(1, 5);
-        Steps.tell(x, 1, 0);
-        x.transfer(0, 0, 1, 4);
-        x.lend(0, 0, 2, 6, 9);
-        x.pass(2);
-        Steps.tell(x, 0, 2);
-        x.send(0, 1);
-        x.send(2, 0);
-        Steps.type(x, "+0:3;t4");
-        return x;
-    }
-
     private static void eachChangeCanBeUndone() {
         List<Consumer<EscrowCounter>> changes = new ArrayList<>();
         changes.add(x -> x.increase(2, 3));
@@ -47,7 +33,7 @@ final class HistoryTest {
         changes.add(x -> x.repeat(1));
         changes.add(EscrowCounter::runScript);
         for (int i = 0; i < changes.size(); i++) {
-            EscrowCounter x = ready();
+            EscrowCounter x = Scenes.lively();
             String before = Picture.of(x);
             long print = x.fingerprint();
             changes.get(i).accept(x);

@@ -69,6 +69,14 @@ final class Model {
         return n;
     }
 
+    int low() {
+        return low;
+    }
+
+    int high() {
+        return high;
+    }
+
     int time() {
         return w.time;
     }

@@ -274,6 +274,7 @@ final class RandomRunsTest {
 
     private void compareAll() {
         compare("fingerprint", x::fingerprint, model::fingerprint);
+        hold(x.value() >= model.low() && x.value() <= model.high(), "the counter has left its bounds");
         for (int kind = 0; kind < 2; kind++) {
             int k = kind;
             compare("dormant " + k, () -> x.dormant(k), () -> model.dormant(k));
