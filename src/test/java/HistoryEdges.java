@@ -56,7 +56,7 @@ final class HistoryEdges {
     }
 
     private static void whatAddsAState(Edges edges) {
-        edges.description("each call that changes something of sites, loans, messages or the time adds the state before it",
+        edges.description("something of sites, loans, messages or the time adds the state before it",
                 check -> {
                     addsOne(check, "increase", x -> x.increase(2, 3) ? 1 : 0);
                     addsOne(check, "decrease", x -> x.decrease(0, 3) ? 1 : 0);
@@ -74,6 +74,15 @@ final class HistoryEdges {
                     addsNone(check, "a rebalancing of nothing", x -> x.rebalance(0, 1));
                     addsNone(check, "questions", x -> Picture.of(x).length() + x.helpers(0, 0, 50) + x.fingerprint());
                 });
+        edges.description("each call that changes something", check -> {
+            EscrowCounter x = new EscrowCounter(2);
+            x.increase(1, 1);
+            Steps.tell(x, 1, 0);
+            x.transfer(0, 0, 1, 49);
+            check.same("a rebalancing of one right", x.rebalance(0, 0), 1);
+            check.same("states", x.undo(), 4);
+            check.same("the right is back", x.own(0, 0), 1);
+        });
         edges.description("(a refused change, too, as it changes the demand", check -> {
             addsOne(check, "increase", x -> x.increase(1, 999) ? 1 : 0);
             addsOne(check, "decrease", x -> x.decrease(1, 999) ? 1 : 0);
@@ -196,8 +205,8 @@ final class HistoryEdges {
             x.increase(0, 1);
             check.note(x.fingerprint() != first, "a change of the value is not seen");
         });
-        edges.promise(32, "It starts as 71; then, for each of the following numbers, in this order, it becomes 31 times "
-                + "itself plus the number", check -> {
+        edges.promise(32, "It starts as 71; then, for each of the following numbers, in this order, "
+                + "it becomes 31 times itself plus the number", check -> {
             int[] numbers = {0, 50, 0, 0, 50, 50, 50, 50, 50, 0, 0, 0, 0, 0, 0, 0, 0, 50, 0, 0, 0, 0};
             check.same("of a new object of 2 sites", new EscrowCounter(2).fingerprint(), wrapped(numbers));
         });

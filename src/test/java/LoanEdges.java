@@ -21,6 +21,15 @@ final class LoanEdges {
             EscrowCounter x = Scenes.withLoans(10);
             x.undo();
             check.same("a loan that is undone is none", x.lend(1, 0, 1, 7, 7), 9);
+            EscrowCounter undone = knownLoan(9, 8);
+            undone.lend(0, 0, 1, 9, 2);
+            Steps.tell(undone, 0, 1);
+            for (int i = 0; i < 3; i++) {
+                undone.undo();
+            }
+            check.same("nor are there rights of it", undone.available(1, 0), 9);
+            undone.increase(1, 4);
+            check.same("so that the one before it is used", undone.loan(0, 5), 4);
         });
         edges.description("numbered from 0 in the order in which they are made", check -> {
             EscrowCounter x = Scenes.spread(3);
@@ -129,7 +138,7 @@ final class LoanEdges {
             }
             check.same("but not when the end is undone", x.loan(0, 7), 0);
         });
-        edges.description("the lender's copy of the record of the borrower has a time that is at least the end", check -> {
+        edges.description("the lender's copy of the record of the borrower has a time that is at least", check -> {
             EscrowCounter x = knownLoan(9, 5);
             x.pass(4);
             x.send(1, 0);

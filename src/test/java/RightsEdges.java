@@ -43,7 +43,7 @@ final class RightsEdges {
             x.increase(0, 100);
             check.same("all there", x.own(0, 1), 100);
         });
-        edges.description("+ what all other sites have transferred to s, minus what s has transferred to them", check -> {
+        edges.description("what all other sites have transferred to s, minus what s has transferred to", check -> {
             EscrowCounter x = Scenes.spread(5);
             int before = x.own(2, 1);
             for (int site = 0; site < 5; site++) {
@@ -84,7 +84,7 @@ final class RightsEdges {
             x.pass(5);
             check.same("also at the end", x.own(0, 0), 0);
         });
-        edges.description("for each of them that has come back, its amount minus what the borrower has used of it", check -> {
+        edges.description("for each of them that has come back, its amount minus what the borrower has", check -> {
             check.same("nothing used", ownAfterUse(0), 50);
             check.same("all but one used", ownAfterUse(9), 41);
             check.same("all used", ownAfterUse(10), 40);
@@ -204,13 +204,15 @@ final class RightsEdges {
             check.same("the most", x.own(0, 0), 20000);
             check.same("the fewest", x.own(0, 1), 0);
         });
-        edges.promise(19, "Returns the number of rights", check -> check.idle("lively", Scenes::lively, 0, x -> x.own(2, 0)));
+        edges.promise(19, "Returns the number of rights",
+                check -> check.idle("lively", Scenes::lively, 0, x -> x.own(2, 0)));
         edges.promise(20, "Returns the available rights of a site", check -> {
             EscrowCounter x = new EscrowCounter(2);
             check.same("without loans its own", x.available(0, 0), 50);
             check.same("none", x.available(1, 1), 0);
         });
-        edges.promise(20, "Returns the number of rights", check -> check.idle("lively", Scenes::lively, 6, x -> x.available(2, 0)));
+        edges.promise(20, "Returns the number of rights",
+                check -> check.idle("lively", Scenes::lively, 6, x -> x.available(2, 0)));
         edges.promise(21, "for kind 0 the high bound minus the value minus the available rights of kind 0 of all sites",
                 check -> dormantOfKind(check, 0));
         edges.promise(21, "for kind 1 the value minus the low bound minus the available rights of kind 1 of all sites",
@@ -257,6 +259,24 @@ final class RightsEdges {
                 check.same("all others of " + n, x.helpers(0, 0, x.own(0, 0) + all), n - 1);
                 check.same("nobody of " + n, x.helpers(0, 0, x.own(0, 0)), 0);
                 check.same("one of " + n, x.helpers(0, 0, x.own(0, 0) + 1), 1);
+            }
+        });
+        edges.promise(27, "Returns the least number of other sites", check -> {
+            int[] given = {0, 5, 20, 10, 1};
+            for (int turn = 1; turn < 5; turn++) {
+                EscrowCounter x = new EscrowCounter(5);
+                for (int site = 1; site < 5; site++) {
+                    x.transfer(0, 0, site, given[(site + turn) % 4 + 1]);
+                    Steps.tell(x, 0, site);
+                }
+                // Then site 0 has 14 of the 50 rights, the others have 1, 5, 10 and 20 in some order.
+                check.same("the greatest of all", x.helpers(0, 0, 14 + 20), 1);
+                check.same("one more", x.helpers(0, 0, 14 + 21), 2);
+                check.same("the two greatest", x.helpers(0, 0, 14 + 30), 2);
+                check.same("one more", x.helpers(0, 0, 14 + 31), 3);
+                check.same("the three greatest", x.helpers(0, 0, 14 + 35), 3);
+                check.same("all", x.helpers(0, 0, 14 + 36), 4);
+                check.same("one more", x.helpers(0, 0, 14 + 37), -1);
             }
         });
         edges.promise(27, "the available rights of the site and the own rights of these sites are at least the amount "

@@ -39,15 +39,25 @@ final class Scenes {
         return x;
     }
 
-    /** As full as can be: 10 loans, 8 messages, 60 characters, 5 states. */
+    /** As full as can be: 10 loans in use, transfers all around, 8 messages, 60 characters, 5 states. */
     static EscrowCounter full() {
         EscrowCounter x = new EscrowCounter(3);
         for (int loan = 0; loan < 10; loan++) {
             x.lend(loan % 2, 0, 1 + loan % 2, 1 + loan, 5 + loan);
         }
-        x.increase(1, 7);
-        x.decrease(2, 8);
-        x.transfer(0, 0, 2, 3);
+        tellAll(x);
+        x.increase(1, 22);
+        x.decrease(2, 28);
+        x.increase(0, 7);
+        for (int kind = 0; kind < 2; kind++) {
+            x.transfer(kind, 0, 1, 2);
+            x.transfer(kind, 0, 2, 3);
+            tellAll(x);
+            x.transfer(kind, 2 - kind, 0, 1);
+            x.transfer(kind, 2 - kind, 1 + kind, 1);
+            refuse(x, 2 - kind, kind, 99);
+            tellAll(x);
+        }
         for (int message = 0; message < 8; message++) {
             x.pass(1);
             x.send(message % 3, (message + 1) % 3);
@@ -87,6 +97,17 @@ final class Scenes {
             x.pass(Math.min(left, 1000));
         }
         return x;
+    }
+
+    /** Each site hears of each other one; the copies are of the records as they are then. */
+    private static void tellAll(EscrowCounter x) {
+        for (int from = 0; from < x.sites(); from++) {
+            for (int to = 0; to < x.sites(); to++) {
+                if (from != to) {
+                    Steps.tell(x, from, to);
+                }
+            }
+        }
     }
 
     private static void refuse(EscrowCounter x, int site, int kind, int amount) {

@@ -59,8 +59,12 @@ final class ScriptEdges {
             check.same("four digits with a zero", run("t0001"), -5);
             check.same("four digits of an amount", run("+0:0001"), -7);
             check.same("a sign", run("t-1"), -2);
+            EscrowCounter x = new EscrowCounter(2);
+            Steps.run(x, "t12");
+            Steps.run(x, "t3");
+            check.same("one script after another", x.time(), 15);
         });
-        edges.description("a site is any one digit (a command with a site that does not exist is not possible)", check -> {
+        edges.description("a site is any one digit (a command with a site that does not exist is not", check -> {
             for (int site = 0; site <= 9; site++) {
                 int due = site < 2 ? 1 : -1000;
                 check.same("message from " + site, run("m" + site + ">" + (site == 0 ? 1 : 0)), due);
@@ -186,10 +190,11 @@ final class ScriptEdges {
             check.same("a use of a loan", Steps.run(Scenes.lively(), "+2:6"), 1);
             check.same("its end within the script", Steps.run(Scenes.lively(), "t7;+2:1"), -1001);
         });
-        edges.description("If a command is refused or not possible (by the rules of the methods below), the whole script "
-                + "fails, and nothing is changed, neither is the demand nor the text", check -> {
+        edges.description("If a command is refused or not possible (by the rules of the methods below), "
+                + "the whole script fails, and nothing is changed, neither is the demand nor the text", check -> {
             String done = "+0:2;-0:1;u0>1:2;d0>2:3;m0>2;t9;";
-            for (String last : new String[] {"+1:9", "-1:9", "+3:1", "+0:0", "u0>1:99", "d0>0:1", "m1>1", "m0>7", "t0"}) {
+            String[] lasts = {"+1:9", "-1:9", "+3:1", "+0:0", "u0>1:99", "d0>0:1", "m1>1", "m0>7", "t0"};
+            for (String last : lasts) {
                 check.idle(last, () -> livelyWith(last), -1000, EscrowCounter::runScript);
                 check.idle(done + last, () -> livelyWith(done + last), -1006, EscrowCounter::runScript);
             }
@@ -226,6 +231,10 @@ final class ScriptEdges {
             check.same("there is no script", x.runScript(), -1);
             check.same("there is room again", x.type('t'), 1);
             check.same("what stood there is gone", x.runScript(), -2);
+            EscrowCounter other = Scenes.withText("+0:7;t5");
+            check.same("the signs", Steps.run(other, "+0"), -3);
+            check.same("the digits", Steps.run(other, "+0:"), -4);
+            check.same("and the commands behind", Steps.run(other, "+0:7"), 1);
         });
         edges.promise(29, "Returns the length that it had", check -> {
             check.same("none", new EscrowCounter(2).clearText(), 0);

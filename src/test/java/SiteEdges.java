@@ -36,7 +36,7 @@ final class SiteEdges {
             check.same("below it", x.decrease(0, 1), false);
             check.same("value", x.value(), 0);
         });
-        edges.description("Initially site 0 has high - start rights of kind 0 and start - low rights of kind 1", check -> {
+        edges.description("site 0 has high - start rights of kind 0 and start - low rights of kind 1", check -> {
             check.same("between the bounds", rightsOfSite0(-7, 12, 3), "9 10");
             check.same("start at the low bound", rightsOfSite0(-7, 12, -7), "19 0");
             check.same("start at the high bound", rightsOfSite0(-7, 12, 12), "0 19");
@@ -102,7 +102,7 @@ final class SiteEdges {
             check.same("up", x.demand(0, 1, 0), 3);
             check.same("down", x.demand(0, 1, 1), 999);
         });
-        edges.description("the loans that it has made, and what it has used of each loan that it has borrowed", check -> {
+        edges.description("the loans that it has made, and what it has used of each loan that it has", check -> {
             EscrowCounter x = new EscrowCounter(2);
             x.lend(0, 0, 1, 6, 5);
             x.lend(0, 0, 1, 8, 5);
@@ -224,6 +224,8 @@ final class SiteEdges {
                 + "all records and copies as at the beginning, the history empty", check -> {
             check.same("a full counter", DeepPicture.of(() -> fullOneBegunAnew(0, 100, 50)),
                     DeepPicture.of(SiteEdges::newOneWithTheTextOfAFullOne));
+            check.same("and all that follows", DeepPicture.of(() -> withALaterLife(fullOneBegunAnew(0, 100, 50))),
+                    DeepPicture.of(() -> withALaterLife(newOneWithTheTextOfAFullOne())));
             EscrowCounter x = fullOneBegunAnew(-10000, 10000, 10000);
             check.same("rights up", x.own(0, 0), 0);
             check.same("rights down", x.own(0, 1), 20000);
@@ -251,6 +253,18 @@ final class SiteEdges {
     private static EscrowCounter fullOneBegunAnew(int low, int high, int start) {
         EscrowCounter x = Scenes.full();
         x.begin(low, high, start);
+        return x;
+    }
+
+    /** Loans of the numbers that there were before, before and after the borrowers hear of them. */
+    private static EscrowCounter withALaterLife(EscrowCounter x) {
+        for (int loan = 0; loan < 10; loan++) {
+            x.lend(1 - loan % 2, 0, 1 + loan % 2, 3, 4);
+        }
+        x.increase(2, 5);
+        x.send(0, 1);
+        Steps.tell(x, 0, 2);
+        x.increase(2, 4);
         return x;
     }
 
@@ -290,7 +304,8 @@ final class SiteEdges {
             check.same("its own record and one copy", x.known(0), 996);
             check.same("its own record alone", x.known(2), -900);
         });
-        edges.promise(18, "Returns that value", check -> check.idle("of a new object", () -> new EscrowCounter(2), 50, x -> x.known(1)));
+        edges.promise(18, "Returns that value",
+                check -> check.idle("of a new object", () -> new EscrowCounter(2), 50, x -> x.known(1)));
         knowledge(edges);
     }
 
@@ -305,14 +320,16 @@ final class SiteEdges {
             check.same("the greatest demand", x.demand(0, 1, 1), 100000);
             check.same("of the other kind", x.demand(0, 1, 0), 0);
         });
-        edges.promise(22, "Returns the demand", check -> check.idle("lively", Scenes::lively, 5, x -> x.demand(2, 1, 0)));
+        edges.promise(22, "Returns the demand",
+                check -> check.idle("lively", Scenes::lively, 5, x -> x.demand(2, 1, 0)));
         edges.promise(23, "Returns the version of a record as a site has it", check -> {
             EscrowCounter x = new EscrowCounter(2);
             x.increase(1, 1);
             check.same("its own", x.version(1, 1), 1);
             check.same("a copy", x.version(0, 1), 0);
         });
-        edges.promise(23, "Returns the version", check -> check.idle("lively", Scenes::lively, 2, x -> x.version(2, 0)));
+        edges.promise(23, "Returns the version",
+                check -> check.idle("lively", Scenes::lively, 2, x -> x.version(2, 0)));
         edges.promise(24, "Returns the time of a copy", check -> {
             EscrowCounter x = new EscrowCounter(2);
             x.pass(3);
