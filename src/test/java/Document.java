@@ -10,11 +10,14 @@ import java.util.Map;
 final class Document {
     private static final Path PLACE = Path.of("../shared/DOC.md");
     private final Map<String, List<String>> sections = new LinkedHashMap<>();
+    private final List<String> face = new ArrayList<>();
 
     Document() throws IOException {
         List<String> sentences = new ArrayList<>();
         for (String line : Files.readAllLines(PLACE)) {
-            if (line.startsWith("## ")) {
+            if (line.startsWith("    public ")) {
+                face.add(line.strip());
+            } else if (line.startsWith("## ")) {
                 sentences = new ArrayList<>();
                 sections.put(line.substring(3).replaceAll(":.*", ""), sentences);
             } else if (!line.isBlank() && !line.startsWith("----") && !line.startsWith("`")) {
@@ -29,10 +32,15 @@ final class Document {
         return sections.getOrDefault(section, List.of());
     }
 
+    /** The lines of the public face, as they stand there. */
+    List<String> face() {
+        return face;
+    }
+
     /** The sections whose sentences all have a test of their own. */
     List<String> testedSections() {
         List<String> names = new ArrayList<>(sections.keySet());
-        names.removeIf(name -> !name.equals("Description") && !name.startsWith("Promise "));
+        names.removeIf(name -> !name.matches("What it is|Description|Promise \\d+"));
         return names;
     }
 }

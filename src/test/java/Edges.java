@@ -35,6 +35,10 @@ final class Edges {
         quotes.computeIfAbsent(section, name -> new ArrayList<>()).add(quote);
     }
 
+    void whole(String quote, Consumer<Check> test) {
+        sentence("What it is", quote, test);
+    }
+
     void description(String quote, Consumer<Check> test) {
         sentence("Description", quote, test);
     }
@@ -45,7 +49,7 @@ final class Edges {
 
     void eachSentenceHasATest() {
         List<String> sections = document.testedSections();
-        all.same("sections with tests", sections.size(), 33);
+        all.same("sections with tests", sections.size(), 34);
         for (String section : sections) {
             List<String> quoted = quotes.getOrDefault(section, List.of());
             for (String sentence : document.sentences(section)) {

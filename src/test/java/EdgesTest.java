@@ -1,10 +1,11 @@
 import java.io.IOException;
 
-/** Each sentence of the document that names a boundary case has a test of its own here. */
+/** Each sentence of the document has a test of its own here, above all those that name a boundary case. */
 final class EdgesTest {
     public static void main(String[] args) throws IOException {
         Check all = new Check("EdgesTest");
         Edges edges = new Edges(new Document(), all);
+        WholeEdges.all(edges);
         ArgumentEdges.all(edges);
         SiteEdges.all(edges);
         LoanEdges.all(edges);
